@@ -39,6 +39,19 @@ public final class Promise04SweepTest {
             free(0) = OK | *
             sweep() = 1 | r0 tag=0 | w0-3 owner=0 state=FREE | quar=0 free=12 largest=8 sweeps=1
             """);
+        script.run("the base decides in a word too", """
+            new(16, 64)
+            alloc(0, 4) = 0 | *
+            alloc(1, 4) = 4 | *
+            alloc(2, 4) = 8 | *
+            addAddr(0, 5) = OK | *
+            addAddr(1, -4) = OK | *
+            storeCap(2, 0) = OK | *
+            addAddr(2, 1) = OK | *
+            storeCap(2, 1) = OK | *
+            free(0) = OK | *
+            sweep() = 2 | r0 tag=0 | w0-3 owner=0 state=FREE | w8 tag=0 | quar=0 free=8 sweeps=1
+            """);
         script.run("narrowed capabilities inside the block", """
             new(16, 64)
             alloc(0, 4) = 0 | *
