@@ -43,7 +43,7 @@ public final class LongRunsTest {
             int[] arguments = arguments(name, machine, heap);
             int want = model.call(name, arguments);
             int got = Calls.make(machine, name, arguments);
-            String differences = Seen.differences(names, Seen.of(machine, heap), model.seen());
+            String differences = Seen.differences(names, Seen.of(machine, heap), model.seen()) + astray(machine, heap);
             if (got != want || !differences.isEmpty()) {
                 wrong++;
                 System.out.println("heap and threshold " + Arrays.toString(size) + ", call " + step + ": " + name
@@ -52,6 +52,39 @@ public final class LongRunsTest {
             }
             answers.merge(name + " " + Math.min(got, 1), 1, Integer::sum);
         }
+    }
+
+    /** Tells of a tagged capability that doesn't lie within one block: EdgesOutOfReachTest stands on there being none. */
+    private static String astray(RevokeQuarantine machine, int heap) {
+        StringBuilder text = new StringBuilder();
+        for (int r = 0; r < Seen.REGISTERS; r++) {
+            int base = machine.reg(r, RevokeQuarantine.F_BASE);
+            int len = machine.reg(r, RevokeQuarantine.F_LEN);
+            if (machine.reg(r, RevokeQuarantine.F_TAG) == 1 && !isWithinOneBlock(machine, heap, base, len)) {
+                text.append("; register ").append(r).append(" is astray");
+            }
+        }
+        for (int w = 0; w < heap; w++) {
+            int base = machine.mem(w, RevokeQuarantine.F_BASE);
+            int len = machine.mem(w, RevokeQuarantine.F_LEN);
+            if (machine.mem(w, RevokeQuarantine.F_TAG) == 1 && !isWithinOneBlock(machine, heap, base, len)) {
+                text.append("; word ").append(w).append(" is astray");
+            }
+        }
+        return text.toString();
+    }
+
+    private static boolean isWithinOneBlock(RevokeQuarantine machine, int heap, int base, int len) {
+        if (base < 0 || len < 1 || len > heap || base > heap - len) {
+            return false;
+        }
+        int owner = machine.mem(base, RevokeQuarantine.F_OWNER);
+        for (int w = base; w < base + len; w++) {
+            if (machine.mem(w, RevokeQuarantine.F_OWNER) != owner) {
+                return false;
+            }
+        }
+        return owner != 0;
     }
 
     /** A run that never meets an answer says nothing of it, so that its absence is a fault of the test. */

@@ -58,6 +58,10 @@ final class Model {
             case "loadData": return loadData(a[0]);
             case "storeCap": return store(a[0], a[1], isReg(a[1]) ? regs.get(a[1]) : Cap.NULL);
             case "loadCap": return loadCap(a[0], a[1]);
+            case "loadedValue": return loaded;
+            case "reg": return shown(Seen.STATS.length + 1, a[0], 8, a[1], 4);
+            case "mem": return shown(Seen.STATS.length + 1 + 8 * 4, a[0], heap, a[1], 6);
+            case "stat": return shown(0, 0, 1, a[0], 8);
             default: throw new IllegalArgumentException(name);
         }
     }
@@ -76,6 +80,12 @@ final class Model {
             row.addAll(List.of(cap.tag ? 1 : 0, cap.base, cap.len, cap.addr, owners[w], state(w)));
         }
         return row.stream().mapToInt(Integer::intValue).toArray();
+    }
+
+    /** What stands in the row in a table of these sizes, or -1 where the table has no such place. */
+    private int shown(int from, int line, int lines, int column, int columns) {
+        boolean isThere = line >= 0 && line < lines && column >= 0 && column < columns;
+        return isThere ? seen()[from + line * columns + column] : -1;
     }
 
     private int state(int w) {

@@ -21,7 +21,8 @@ public final class Promise02AllocTest {
             new(16, 8)
             alloc(0, 4) = 0 | r0 tag=1 len=4 | w0-3 owner=1 state=LIVE | free=12 live=4 largest=12 allocs=1
             alloc(7, 1) = 4 | r7 tag=1 base=4 len=1 addr=4 | w4 owner=2 state=LIVE | free=11 live=5 largest=11 allocs=2
-            alloc(3, 11) = 5 | r3 tag=1 base=5 len=11 addr=5 | w5-15 owner=3 state=LIVE | free=0 live=16 largest=0 allocs=3
+            alloc(3, 11) = 5 | r3 tag=1 base=5 len=11 addr=5 | w5-15 owner=3 state=LIVE \
+                | free=0 live=16 largest=0 allocs=3
             alloc(1, 1) = NO_SPACE
             alloc(1, 17) = BAD_SIZE
             """);
@@ -72,7 +73,8 @@ public final class Promise02AllocTest {
             new(16, 64)
             alloc(0, 4) = 0 | *
             free(0) = OK | *
-            alloc(1, 12) = 4 | r1 tag=1 base=4 len=12 addr=4 | w4-15 owner=2 state=LIVE | free=0 live=12 largest=0 allocs=2
+            alloc(1, 12) = 4 | r1 tag=1 base=4 len=12 addr=4 | w4-15 owner=2 state=LIVE \
+                | free=0 live=12 largest=0 allocs=2
             """);
         script.run("a reused block is empty", """
             new(8, 1)
@@ -95,7 +97,8 @@ public final class Promise02AllocTest {
             storeData(0, 7) = OK | *
             loadData(0) = OK | *
             free(0) = OK | *
-            alloc(3, 3) = 0 | r0 tag=0 | r2 tag=0 | r3 tag=1 len=3 | w0-2 owner=3 state=LIVE value=0 | w3 owner=0 state=FREE | w4 tag=0 | quar=0 live=7 free=1 largest=1 sweeps=1 allocs=3
+            alloc(3, 3) = 0 | r0 tag=0 | r2 tag=0 | r3 tag=1 len=3 | w0-2 owner=3 state=LIVE value=0 \
+                | w3 owner=0 state=FREE | w4 tag=0 | quar=0 live=7 free=1 largest=1 sweeps=1 allocs=3
             """);
         script.run("the register that the sweep revokes is the one that is filled", """
             new(8, 64)
@@ -108,7 +111,8 @@ public final class Promise02AllocTest {
             new(8, 64)
             alloc(0, 4) = 0 | *
             free(0) = OK | *
-            alloc(1, 6) = 0 | r0 tag=0 | r1 tag=1 len=6 | w0-5 owner=2 state=LIVE | quar=0 live=6 free=2 largest=2 sweeps=1 allocs=2
+            alloc(1, 6) = 0 | r0 tag=0 | r1 tag=1 len=6 | w0-5 owner=2 state=LIVE \
+                | quar=0 live=6 free=2 largest=2 sweeps=1 allocs=2
             """);
     }
 

@@ -37,21 +37,24 @@ public final class Promise03FreeTest {
             storeCap(2, 0) = OK | *
             storeData(0, 9) = OK | *
             free(0) = OK | w0-2 state=QUAR | quar=3 live=2
-            free(1) = OK_SWEPT | r0 tag=0 | r1 tag=0 | r3 tag=0 | w0 value=0 | w0-3 owner=0 state=FREE | w4 tag=0 | quar=0 live=1 free=15 sweeps=1
+            free(1) = OK_SWEPT | r0 tag=0 | r1 tag=0 | r3 tag=0 | w0 value=0 | w0-3 owner=0 state=FREE | w4 tag=0 \
+                | quar=0 live=1 free=15 sweeps=1
             """);
         script.run("above the threshold", """
             new(16, 4)
             alloc(0, 3) = 0 | *
             alloc(1, 5) = 3 | *
             free(0) = OK | *
-            free(1) = OK_SWEPT | r0 tag=0 | r1 tag=0 | w0-7 owner=0 state=FREE | quar=0 live=0 free=16 largest=16 sweeps=1
+            free(1) = OK_SWEPT | r0 tag=0 | r1 tag=0 | w0-7 owner=0 state=FREE \
+                | quar=0 live=0 free=16 largest=16 sweeps=1
             """);
         script.run("a block one short of the threshold", """
             new(64, 64)
             alloc(0, 63) = 0 | *
             alloc(1, 1) = 63 | *
             free(0) = OK | w0-62 state=QUAR | quar=63 live=1
-            free(1) = OK_SWEPT | r0 tag=0 | r1 tag=0 | w0-63 owner=0 state=FREE | quar=0 live=0 free=64 largest=64 sweeps=1
+            free(1) = OK_SWEPT | r0 tag=0 | r1 tag=0 | w0-63 owner=0 state=FREE \
+                | quar=0 live=0 free=64 largest=64 sweeps=1
             """);
         script.run("what the sweep leaves alone", """
             new(16, 2)

@@ -20,7 +20,8 @@ public final class Promise04SweepTest {
             move(3, 0) = OK | *
             move(6, 0) = OK | *
             free(0) = OK | *
-            sweep() = 5 | r0 tag=0 | r3 tag=0 | r6 tag=0 | w0-1 owner=0 state=FREE | w2 tag=0 | w15 tag=0 | quar=0 free=2 largest=2 sweeps=1
+            sweep() = 5 | r0 tag=0 | r3 tag=0 | r6 tag=0 | w0-1 owner=0 state=FREE | w2 tag=0 | w15 tag=0 \
+                | quar=0 free=2 largest=2 sweeps=1
             sweep() = 0 | sweeps=2
             """);
         script.run("registers 0 and 7", """
@@ -61,7 +62,8 @@ public final class Promise04SweepTest {
             restrict(4, 0, 1, 2) = OK | *
             storeCap(1, 2) = OK | *
             free(0) = OK | *
-            sweep() = 4 | r0 tag=0 | r2 tag=0 | r4 tag=0 | w0-3 owner=0 state=FREE | w4 tag=0 | quar=0 free=12 largest=8 sweeps=1
+            sweep() = 4 | r0 tag=0 | r2 tag=0 | r4 tag=0 | w0-3 owner=0 state=FREE | w4 tag=0 \
+                | quar=0 free=12 largest=8 sweeps=1
             """);
         wordsInQuarantine(script);
         nothingElse(script);
@@ -75,7 +77,8 @@ public final class Promise04SweepTest {
             addAddr(0, 2) = OK | *
             storeCap(0, 0) = OK | *
             free(0) = OK | *
-            sweep() = 2 | r0 tag=0 | w2 tag=0 base=0 len=0 value=0 | w0-3 owner=0 state=FREE | quar=0 free=8 largest=8 sweeps=1
+            sweep() = 2 | r0 tag=0 | w2 tag=0 base=0 len=0 value=0 | w0-3 owner=0 state=FREE \
+                | quar=0 free=8 largest=8 sweeps=1
             """);
         script.run("a quarantined word with a live base doesn't count, and is emptied", """
             new(8, 64)
@@ -83,7 +86,8 @@ public final class Promise04SweepTest {
             alloc(1, 4) = 4 | *
             storeCap(0, 1) = OK | *
             free(0) = OK | *
-            sweep() = 1 | r0 tag=0 | w0 tag=0 base=0 len=0 value=0 | w0-3 owner=0 state=FREE | quar=0 free=4 largest=4 sweeps=1
+            sweep() = 1 | r0 tag=0 | w0 tag=0 base=0 len=0 value=0 | w0-3 owner=0 state=FREE \
+                | quar=0 free=4 largest=4 sweeps=1
             """);
         script.run("two quarantined blocks that point at each other", """
             new(8, 64)
@@ -93,7 +97,8 @@ public final class Promise04SweepTest {
             storeCap(1, 0) = OK | *
             free(0) = OK | *
             free(1) = OK | *
-            sweep() = 4 | r0 tag=0 | r1 tag=0 | w0 tag=0 base=0 len=0 value=0 | w4 tag=0 len=0 | w0-7 owner=0 state=FREE | quar=0 free=8 largest=8 sweeps=1
+            sweep() = 4 | r0 tag=0 | r1 tag=0 | w0 tag=0 base=0 len=0 value=0 | w4 tag=0 len=0 \
+                | w0-7 owner=0 state=FREE | quar=0 free=8 largest=8 sweeps=1
             """);
         script.run("an untagged word in quarantine is emptied", """
             new(8, 64)

@@ -58,7 +58,8 @@ public final class Promise10StoreCapTest {
             free(0) = OK | *
             storeCap(0, 1) = OK | w0 tag=1 base=2 len=2 value=2
             storeCap(1, 0) = OK | w2 tag=1 len=2
-            sweep() = 2 | r0 tag=0 | w0 tag=0 base=0 len=0 value=0 | w0-1 owner=0 state=FREE | w2 tag=0 | quar=0 free=14 sweeps=1 largest=12
+            sweep() = 2 | r0 tag=0 | w0 tag=0 base=0 len=0 value=0 | w0-1 owner=0 state=FREE | w2 tag=0 \
+                | quar=0 free=14 sweeps=1 largest=12
             storeCap(0, 1) = TAG_FAULT
             """);
         script.end();

@@ -9,7 +9,8 @@ import java.util.regex.Pattern;
  * <p>A run begins with 'new(heapWords, threshold)'; behind it stand 'heap=' and 'threshold=' where they are not the
  * arguments themselves. Every other line is 'call = answer', and behind bars what the call changes, as in
  * 'alloc(0, 4) = 0 | r0 tag=1 len=4 | w0-3 owner=1 state=LIVE | free=4 live=4 largest=4 allocs=1'. What isn't named
- * must not change; '| *' lets a line of mere preparation change what it likes. A line that begins with '#' is a remark.
+ * must not change; '| *' lets a line of mere preparation change what it likes. A line 'plant()' puts what stands behind
+ * its bars into the machine by force. A line that begins with '#' is a remark.
  */
 final class Script {
     private static final Pattern CALL = Pattern.compile("(\\w+)\\(([^)]*)\\)(?: = (\\S+))?");
@@ -21,6 +22,7 @@ final class Script {
     private List<String> names;
     private int heap;
     private int[] due;
+    private boolean planting;
 
     void run(String runTitle, String text) {
         title = runTitle;
@@ -49,8 +51,11 @@ final class Script {
         int[] arguments = numbers(call.group(2));
         String[] changes = Arrays.copyOfRange(parts, 1, parts.length);
         calls++;
+        planting = call.group(1).equals("plant");
         if (call.group(1).equals("new")) {
             begin(line, arguments, changes);
+        } else if (planting) {
+            step(line, 0, 0, changes);
         } else {
             step(line, Calls.make(machine, call.group(1), arguments), number(call.group(3)), changes);
         }
@@ -125,9 +130,12 @@ final class Script {
             throw new IllegalArgumentException(name);
         }
         due[at] = value;
+        if (planting) {
+            Planted.set(machine, name, value);
+        }
     }
 
-    private static int[] numbers(String text) {
+    static int[] numbers(String text) {
         if (text.isBlank()) {
             return new int[0];
         }
